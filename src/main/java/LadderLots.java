@@ -240,11 +240,12 @@ public final class LadderLots {
         if (ladder == null) {
             return NONE;
         }
-        int end = orders.end(ladder, 0, 0);
-        if (!ladder.isPlain() || ladder.size() != orders.inversions(ladder.legs(), end)) {
+        if (!ladder.isPlain()) {
             return MISFIT;
         }
-        return least.rankOf(ladder, end);
+        int end = orders.end(ladder, 0, 0);
+        boolean isLeast = ladder.size() == orders.inversions(ladder.legs(), end);
+        return isLeast ? least.rankOf(ladder, end) : MISFIT;
     }
 
     public int cleared(int t) {
@@ -701,9 +702,11 @@ public final class LadderLots {
             int layer = 0;
             for (int i = 0; i <= last && i < size; i++) {
                 int leg = legAt(i);
-                layer = Math.max(tops[leg], tops[leg + 1]) + 1;
-                tops[leg] = layer;
-                tops[leg + 1] = layer;
+                if (leg + 1 < tops.length) {
+                    layer = Math.max(tops[leg], tops[leg + 1]) + 1;
+                    tops[leg] = layer;
+                    tops[leg + 1] = layer;
+                }
             }
             return layer;
         }
@@ -1013,10 +1016,10 @@ public final class LadderLots {
             reach(from, 0);
             int start = 0;
             for (int steps = 0; start < reached && steps < MOST_WORDS; steps++) {
-                for (int at = start; at < reached && slideCost == 0; at++) {
+                for (int at = start; slideCost == 0 && at < reached && at < line.length; at++) {
                     reachBySlides(line[at], steps);
                 }
-                int levelEnd = reached;
+                int levelEnd = Math.min(reached, line.length);
                 for (int at = start; at < levelEnd; at++) {
                     reachByTurns(line[at], steps + 1);
                     reachBySlides(line[at], steps + 1);
@@ -1035,7 +1038,7 @@ public final class LadderLots {
                     classCount++;
                     reach(i, 0);
                 }
-                for (; at < reached; at++) {
+                for (; at < reached && at < line.length; at++) {
                     reachBySlides(line[at], 0);
                 }
             }
@@ -1089,7 +1092,7 @@ public final class LadderLots {
         private int find(long word) {
             int low = 0;
             int high = size - 1;
-            while (low <= high) {
+            for (int tries = 0; low <= high && tries < MOST_WORDS; tries++) {
                 int middle = low + (high - low) / 2;
                 long here = wordAt(middle);
                 if (here == word) {
@@ -1762,7 +1765,7 @@ public final class LadderLots {
                 now[leg] = bits.columnAt(leg);
             }
             keepNow(NONE, NONE);
-            for (int state = 0; state < size; state++) {
+            for (int state = 0; state < size && state < MOST_STATES; state++) {
                 if (isSorted(state)) {
                     return traceBack(state);
                 }
@@ -1854,27 +1857,27 @@ public final class LadderLots {
      * no text goes on (SYNTAX), or for which there is no room (ROOM).
      */
     private static final class Tokens {
-        static final char INT = 'i';
-        static final char NAME = 'n';
-        static final char LEGS = 'L';
-        static final char RUNG = 'R';
-        static final char GATE = 'G';
-        static final char BACK = 'B';
-        static final char MAYBE = 'M';
-        static final char USE = 'U';
-        static final char UPSIDE = 'u';
-        static final char TURNED = 't';
-        static final char TIMES = 'T';
-        static final char PART = 'P';
-        static final char CLOSED = '}';
+        static final int INT = 'i';
+        static final int NAME = 'n';
+        static final int LEGS = 'L';
+        static final int RUNG = 'R';
+        static final int GATE = 'G';
+        static final int BACK = 'B';
+        static final int MAYBE = 'M';
+        static final int USE = 'U';
+        static final int UPSIDE = 'u';
+        static final int TURNED = 't';
+        static final int TIMES = 'T';
+        static final int PART = 'P';
+        static final int CLOSED = '}';
         static final int MOST_PARTS = 8;
         static final int MOST_DEPTH = 4;
 
         private static final int SYNTAX = 1;
         private static final int ROOM = 2;
-        private static final char OPEN = '{';
-        private static final char END = 'E';
-        private static final char NO_TOKEN = '?';
+        private static final int OPEN = '{';
+        private static final int END = 'E';
+        private static final int NO_TOKEN = '?';
         private static final int MOST_BYTES = 2000;
         private static final int MOST_TOKENS = 400;
         private static final int MOST_LETTERS = 8;
@@ -1888,15 +1891,15 @@ public final class LadderLots {
 
         private final byte[] tape;
         private final long[] wordCodes;
-        private final char[] wordKinds;
-        private final char[] kinds;
+        private final int[] wordKinds;
+        private final int[] kinds;
         private final long[] values;
         private final int[] places;
         private int length;
         private int size;
         private int faultPlace;
         /** The token that is looked at. */
-        private char kind;
+        private int kind;
         private long value;
         private int place;
         private int placeBehind;
@@ -1909,8 +1912,8 @@ public final class LadderLots {
         Tokens() {
             tape = new byte[MOST_BYTES];
             wordCodes = new long[WORD_COUNT];
-            wordKinds = new char[WORD_COUNT];
-            kinds = new char[MOST_TOKENS];
+            wordKinds = new int[WORD_COUNT];
+            kinds = new int[MOST_TOKENS];
             values = new long[MOST_TOKENS];
             places = new int[MOST_TOKENS];
             faultPlace = NONE;
@@ -1972,7 +1975,7 @@ public final class LadderLots {
             return faultPlace;
         }
 
-        char kindAt(int i) {
+        int kindAt(int i) {
             return i >= 0 && i < size && i < kinds.length ? kinds[i] : END;
         }
 
@@ -2046,10 +2049,10 @@ public final class LadderLots {
                 return depth >= 0;
             }
             if (kind == PART) {
-                parts++;
                 if (depth > 0) {
                     return false;
                 }
+                parts++;
             }
             shape = shapeBehind(kind);
             shapeAt = 0;
@@ -2057,7 +2060,7 @@ public final class LadderLots {
         }
 
         private boolean goesOnInShape() {
-            char due = shape.charAt(shapeAt);
+            int due = shape.charAt(shapeAt);
             while (kind != due && (due == UPSIDE || due == TURNED)
                     && shapeAt + 1 < shape.length()) {
                 shapeAt++;
@@ -2073,7 +2076,7 @@ public final class LadderLots {
             return true;
         }
 
-        private static String shapeBehind(char first) {
+        private static String shapeBehind(int first) {
             switch (first) {
                 case RUNG:
                 case GATE:
@@ -2109,7 +2112,7 @@ public final class LadderLots {
                 takeDigits();
             } else {
                 boolean known = sign == ';' || sign == OPEN || sign == CLOSED;
-                kind = known ? (char) sign : NO_TOKEN;
+                kind = known ? sign : NO_TOKEN;
                 placeBehind = at + 1;
             }
         }
@@ -2132,7 +2135,7 @@ public final class LadderLots {
             kind = at - place > MOST_DIGITS ? NO_TOKEN : INT;
         }
 
-        private char kindOfWord(long code) {
+        private int kindOfWord(long code) {
             for (int word = 0; word < wordCodes.length && word < wordKinds.length; word++) {
                 if (wordCodes[word] == code) {
                     return wordKinds[word];
@@ -2243,11 +2246,10 @@ public final class LadderLots {
         }
 
         private void tellNext() {
-            char kind = tokens.kindAt(at);
             if (into == whole && timesOpen == 0) {
                 tellPlace = tokens.placeAt(at);
             }
-            switch (kind) {
+            switch (tokens.kindAt(at)) {
                 case Tokens.PART:
                     openPart();
                     break;
