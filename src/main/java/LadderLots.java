@@ -854,6 +854,30 @@ public final class LadderLots {
             return changed;
         }
 
+        /** Leads many orders past an element that is there. */
+        void leadAll(Ladder ladder, int i, int[] all, int many) {
+            int n = ladder.legs();
+            int k = ladder.legAt(i);
+            int kind = ladder.kindAt(i);
+            if (!fits(n) || k > n - 2) {
+                return;
+            }
+            prepare(n);
+            int row = (k + MOST_LEGS - n) * MOST_ORDERS;
+            boolean always = kind == Ladder.RUNG || kind == Ladder.MAYBE;
+            boolean toLesser = kind == Ladder.GATE;
+            for (int at = 0; at < many && at < all.length; at++) {
+                int order = all[at];
+                int cell = row + order;
+                if (cell >= 0 && cell < swaps.length) {
+                    int changed = swaps[cell];
+                    if (always || changed < order == toLesser) {
+                        all[at] = changed;
+                    }
+                }
+            }
+        }
+
         int end(Ladder ladder, int order, int there) {
             int now = order;
             int left = there;
@@ -1317,25 +1341,32 @@ public final class LadderLots {
         }
     }
 
-    /** The ends that one order can come to, each with the ways by which it does. */
+    /**
+     * The ends that one order can come to, each with the ways by which it does. On their way down
+     * orders become alike at gates; they are put together at maybes and at the bottom alone.
+     */
     private static final class Odds {
         private final Orders orders;
+        /** Orders on their way down, and the ways of each by its place here. */
         private int[] ends;
-        private int[] newEnds;
         private long[] ways;
+        private int[] newEnds;
         private long[] newWays;
+        /** For each order, one more than its place among the new ones; 0 if it is not there. */
+        private final int[] slots;
         private int size;
         private int newSize;
+        private int legs;
         private int stampSeen;
         private int orderSeen;
-        private int legs;
 
         Odds(Orders table) {
             orders = table;
             ends = new int[Orders.MOST_ORDERS];
-            newEnds = new int[Orders.MOST_ORDERS];
             ways = new long[Orders.MOST_ORDERS];
+            newEnds = new int[Orders.MOST_ORDERS];
             newWays = new long[Orders.MOST_ORDERS];
+            slots = new int[Orders.MOST_ORDERS];
         }
 
         void look(Ladder ladder, int order) {
@@ -1345,57 +1376,51 @@ public final class LadderLots {
             stampSeen = ladder.stamp();
             orderSeen = order;
             legs = ladder.legs();
-            forget();
-            bring(order, 1);
-            turnOver();
-            for (int i = 0; i < ladder.size(); i++) {
-                pass(ladder, i);
-                turnOver();
-            }
-        }
-
-        private void forget() {
-            size = 0;
+            Arrays.fill(slots, 0);
             newSize = 0;
-            Arrays.fill(ways, 0);
-            Arrays.fill(newWays, 0);
+            bring(order, 1);
+            for (int i = 0; i < ladder.size(); i++) {
+                if (ladder.kindAt(i) == Ladder.MAYBE) {
+                    turnOver();
+                    part(ladder, i);
+                } else {
+                    orders.leadAll(ladder, i, newEnds, newSize);
+                }
+            }
+            turnOver();
+            for (int at = 0; at < size && at < ends.length && at < ways.length; at++) {
+                bring(ends[at], ways[at]);
+            }
         }
 
-        private void pass(Ladder ladder, int i) {
-            int kind = ladder.kindAt(i);
+        private void part(Ladder ladder, int i) {
+            int there = ladder.waysThereAt(i);
+            int away = ladder.waysAt(i) - there;
             int leg = ladder.legAt(i);
-            int there = 1;
-            int away = 0;
-            if (kind == Ladder.MAYBE) {
-                there = ladder.waysThereAt(i);
-                away = ladder.waysAt(i) - there;
-            }
-            for (int at = 0; at < size && at < ends.length; at++) {
-                int end = ends[at];
-                long many = waysTo(end);
-                clearWays(end);
-                bring(end, many * away);
-                bring(orders.behind(legs, end, kind, leg), many * there);
+            for (int at = 0; at < size && at < ends.length && at < ways.length; at++) {
+                bring(ends[at], ways[at] * away);
+                bring(orders.exchanged(legs, ends[at], leg), ways[at] * there);
             }
         }
 
         private void bring(int end, long many) {
-            if (many <= 0 || end < 0 || end >= newWays.length) {
+            if (many <= 0 || end < 0 || end >= slots.length) {
                 return;
             }
-            if (newWays[end] == 0 && newSize >= 0 && newSize < newEnds.length) {
-                newEnds[newSize] = end;
+            int slot = slots[end] > 0 ? slots[end] - 1 : newSize;
+            if (slot < 0 || slot >= newEnds.length || slot >= newWays.length) {
+                return;
+            }
+            if (slot == newSize) {
+                newEnds[slot] = end;
+                newWays[slot] = 0;
                 newSize++;
+                slots[end] = newSize;
             }
-            newWays[end] += many;
+            newWays[slot] += many;
         }
 
-        private void clearWays(int end) {
-            if (end >= 0 && end < ways.length) {
-                ways[end] = 0;
-            }
-        }
-
+        /** The new ones are those on their way down then, and none is new. */
         private void turnOver() {
             int[] oldEnds = ends;
             ends = newEnds;
@@ -1405,26 +1430,27 @@ public final class LadderLots {
             newWays = oldWays;
             size = newSize;
             newSize = 0;
+            Arrays.fill(slots, 0);
         }
 
         int howMany() {
-            return size;
+            return newSize;
         }
 
         int endAt(int at) {
-            return at >= 0 && at < size && at < ends.length ? ends[at] : NONE;
+            return at >= 0 && at < newSize && at < newEnds.length ? newEnds[at] : NONE;
         }
 
         long waysTo(int end) {
-            return end >= 0 && end < ways.length ? ways[end] : 0;
+            int slot = end >= 0 && end < slots.length ? slots[end] - 1 : NONE;
+            return slot >= 0 && slot < newWays.length ? newWays[slot] : 0;
         }
 
         long waysOnto(int number, int leg) {
             long sum = 0;
-            for (int at = 0; at < size; at++) {
-                int end = endAt(at);
-                if (orders.legOf(legs, end, number) == leg) {
-                    sum += waysTo(end);
+            for (int at = 0; at < newSize && at < newEnds.length && at < newWays.length; at++) {
+                if (orders.legOf(legs, newEnds[at], number) == leg) {
+                    sum += newWays[at];
                 }
             }
             return sum;
