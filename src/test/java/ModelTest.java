@@ -147,7 +147,7 @@ public final class ModelTest {
     private static void testLogs() {
         REPORT.begin("logs and voids of two ladders, as known by each number of them");
         for (int run = 0; run < 30; run++) {
-            int legs = 2 + run % 5;
+            int legs = 2 + run % 6;
             Naive.Ladder one = random(legs, 3 + RANDOM.nextInt(9), 0x3330);
             Naive.Ladder other = random(legs, 3 + RANDOM.nextInt(9), 0x3310);
             LadderLots lots = with(one, other);
@@ -279,6 +279,39 @@ public final class ModelTest {
         REPORT.end();
     }
 
+    private static void testNearSorters() {
+        REPORT.begin("ladders that sort but for few rows");
+        int late = 0;
+        for (int run = 0; run < 300; run++) {
+            Naive.Ladder ladder = nearSorter(run % 3 == 0 ? 5 : run % 3 == 1 ? 6 : 7);
+            LadderLots lots = with(ladder);
+            List<Integer> failing = Naive.fails(ladder);
+            REPORT.due("fails of " + ladder, lots.fails(0), failing.size());
+            REPORT.due("firstFail of " + ladder, lots.firstFail(0),
+                    failing.isEmpty() ? -3 : failing.get(0));
+            REPORT.due("unsorted of " + ladder, lots.unsorted(0), Naive.unsorted(ladder));
+            late += !failing.isEmpty() && failing.get(0) > 64 ? 1 : 0;
+        }
+        REPORT.holds("some fail first with leg 6, not " + late, late > 5);
+        REPORT.end();
+    }
+
+    /** Rungs, and behind them gates that sort all rows but for one that is left out. */
+    private static Naive.Ladder nearSorter(int legs) {
+        List<Naive.Element> elements = new ArrayList<>();
+        for (int i = 0; i < 20; i++) {
+            elements.add(new Naive.Element(Naive.RUNG, RANDOM.nextInt(legs - 1), 0, 0));
+        }
+        int leftOut = elements.size() + RANDOM.nextInt(legs * (legs - 1) / 2);
+        for (int last = 0; last + 1 < legs; last++) {
+            for (int leg = last; leg >= 0; leg--) {
+                elements.add(new Naive.Element(Naive.GATE, leg, 0, 0));
+            }
+        }
+        elements.remove(leftOut);
+        return new Naive.Ladder(legs, elements);
+    }
+
     private static void testMade() {
         REPORT.begin("ladders turned, joined, by lots, and their layers");
         for (int run = 0; run < 60; run++) {
@@ -368,6 +401,7 @@ public final class ModelTest {
         testLogs();
         testPlain();
         testGates();
+        testNearSorters();
         testMade();
         REPORT.exit();
     }

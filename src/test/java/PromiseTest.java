@@ -101,6 +101,14 @@ public final class PromiseTest {
                 "legs 3;times 2{rung 0;times 3{gate 1;}times 0{back 0;}}rung 1;",
                 "legs 3;part a{rung 0;}part b{use a;times 2{use a turned;}}use b;part c{}use c;"
                         + "use b upside;");
+        LadderLots y = with("legs 7; part a{rung 0;} part b{rung 1;} part c{rung 2;}"
+                + "part d{rung 3;} part e{rung 4;} part f{rung 5;} part g{gate 0;} part h{gate 1;}"
+                + "use h; use g; use f; use e; use d; use c; use b; use a;",
+                "legs 3; times 2{times 2{rung 1; times 2{gate 0; times 3{rung 0;}}}}",
+                "legs 3; part a{times 2{times 2{gate 1; times 2{rung 0;}}}} use a;");
+        dueElements(y, 0, "g1g0r5r4r3r2r1r0");
+        dueElements(y, 1, Texts.times("r1g0r0r0r0g0r0r0r0", 4));
+        dueElements(y, 2, Texts.times("g1r0r0", 4));
         dueElements(x, 0, "");
         dueElements(x, 1, "r0g3b1m2");
         dueElements(x, 2, "r0g1b2m0" + "m0b2g1r0" + "r2b1g0m2" + "m2g0b1r2");
@@ -155,6 +163,7 @@ public final class PromiseTest {
     private static void readsOtherFaults() {
         dueRead("legs 3; part a{} part a{}", 3, 22);
         dueRead("legs 3; part a{} part a{rung 9;} use q;", 3, 22);
+        dueRead("legs 3; part a{} part b{} part b{} part a{}", 3, 31);
         dueRead("legs 3; use a; part a{}", 4, 12);
         dueRead("legs 3; part a{use a;}", 4, 19);
         dueRead("legs 3; times 2{use b;}", 4, 20);
@@ -549,6 +558,8 @@ public final class PromiseTest {
         REPORT.due("classes(6, 127)", x.classes(6, 127), 1);
         REPORT.due("classes(7, 0)", x.classes(7, 0), 1);
         REPORT.due("classes(6, 719)", x.classes(6, 719), -2);
+        REPORT.due("ladders(7, 827)", x.ladders(7, 827), 810);
+        REPORT.due("classes(7, 827)", x.classes(7, 827), -2);
         REPORT.due("classes(3, 6)", x.classes(3, 6), -1);
         REPORT.due("classes(3, -1)", x.classes(3, -1), -1);
         REPORT.due("classes(0, 0)", x.classes(0, 0), -1);
@@ -662,6 +673,9 @@ public final class PromiseTest {
         }
         REPORT.due("a 41st", x.annul(4), -1);
         REPORT.due("count(1)", x.count(1), 40);
+        x.clear();
+        REPORT.due("a log that is gone", x.annul(0), -1);
+        REPORT.due("a log that is gone", x.annul(39), -1);
     }
 
     private static void test30Fitting() {
@@ -850,6 +864,11 @@ public final class PromiseTest {
             REPORT.due("idle(0, " + i + ")", x.idle(0, i), due[i]);
         }
         REPORT.due("behind a sorter", x.idle(2, 3), 1);
+        LadderLots y = with("legs 7; rung 5; gate 5; back 4; gate 5;", "legs 7; back 5; back 5;");
+        REPORT.due("changes with a one from leg 6 alone", y.idle(0, 1), 0);
+        REPORT.due("a lesser one came to leg 5", y.idle(0, 3), 1);
+        REPORT.due("changes with a one on leg 6 alone", y.idle(1, 0), 0);
+        REPORT.due("idle(1, 1)", y.idle(1, 1), 1);
         REPORT.due("its last", x.idle(2, 2), 0);
         REPORT.due("idle(1, 1)", x.idle(1, 1), -2);
         REPORT.due("idle(1, 2)", x.idle(1, 2), -1);

@@ -28,7 +28,7 @@ public final class ReadingTest {
     }
 
     private void addTell(int n, int open) {
-        int kind = RANDOM.nextInt(open < 3 ? 9 : 6);
+        int kind = RANDOM.nextInt(open < 4 ? 9 : 6);
         if (kind < 3) {
             add(TOKENS[1 + kind]);
             add(number(n - 2));
