@@ -523,6 +523,7 @@ public final class LadderLots {
         shelved++;
         stamps++;
         made.begin(legs, stamps);
+        orders.prepare(legs);
         return made;
     }
 
@@ -750,11 +751,11 @@ public final class LadderLots {
         }
 
         boolean has(int n, int order) {
-            return order >= 0 && order < howMany(n);
+            return fits(n) && order >= 0 && order < FACTORIALS[n];
         }
 
         private int lesserBehind(int n, int order, int i) {
-            if (!fits(n) || i < 0 || i >= n) {
+            if (n > MOST_LEGS || i < 0 || i >= n) {
                 return 0;
             }
             return order / FACTORIALS[n - 1 - i] % (n - i);
@@ -808,38 +809,34 @@ public final class LadderLots {
             return result;
         }
 
-        int exchanged(int n, int order, int k) {
-            if (!has(n, order) || k < 0 || k > n - 2) {
-                return order;
-            }
-            prepare(n);
-            return swaps[(k + MOST_LEGS - n) * MOST_ORDERS + order];
-        }
-
-        private void prepare(int n) {
-            if (n <= ready) {
+        /** Fills the table for orders of n, which can be led down only then. */
+        void prepare(int n) {
+            if (n <= ready || !fits(n)) {
                 return;
             }
             ready = n;
-            int many = howMany(n);
             for (int k = 0; k <= n - 2; k++) {
                 int from = (k + MOST_LEGS - n) * MOST_ORDERS;
-                for (int order = 0; order < many; order++) {
-                    swaps[from + order] = (short) reckonExchanged(n, order, k);
+                int weight = FACTORIALS[n - 1 - k];
+                int nextWeight = FACTORIALS[n - 2 - k];
+                for (int order = 0; order < FACTORIALS[n]; order++) {
+                    int left = lesserBehind(n, order, k);
+                    int right = lesserBehind(n, order, k + 1);
+                    int newLeft = left > right ? right : right + 1;
+                    int newRight = left > right ? left - 1 : left;
+                    swaps[from + order] = (short) (order + (newLeft - left) * weight
+                            + (newRight - right) * nextWeight);
                 }
             }
         }
 
-        private int reckonExchanged(int n, int order, int k) {
-            if (k < 0 || k > n - 2 || n > MOST_LEGS) {
+        /** The order in which the two on legs k and k + 1 have changed. */
+        int exchanged(int n, int order, int k) {
+            if (n < FEWEST_LEGS || n > ready || k < 0 || k > n - 2
+                    || order < 0 || order >= MOST_ORDERS) {
                 return order;
             }
-            int left = lesserBehind(n, order, k);
-            int right = lesserBehind(n, order, k + 1);
-            int newLeft = left > right ? right : right + 1;
-            int newRight = left > right ? left - 1 : left;
-            return order + (newLeft - left) * FACTORIALS[n - 1 - k]
-                    + (newRight - right) * FACTORIALS[n - 2 - k];
+            return swaps[(k + MOST_LEGS - n) * MOST_ORDERS + order];
         }
 
         /** Behind an element that is there; the lesser order is the one with the lesser left. */
@@ -859,10 +856,9 @@ public final class LadderLots {
             int n = ladder.legs();
             int k = ladder.legAt(i);
             int kind = ladder.kindAt(i);
-            if (!fits(n) || k > n - 2) {
+            if (n < FEWEST_LEGS || n > ready || k > n - 2) {
                 return;
             }
-            prepare(n);
             int row = (k + MOST_LEGS - n) * MOST_ORDERS;
             boolean always = kind == Ladder.RUNG || kind == Ladder.MAYBE;
             boolean toLesser = kind == Ladder.GATE;
@@ -918,17 +914,22 @@ public final class LadderLots {
                 return 0;
             }
             reckonCounts(n);
-            return order < counts.length ? counts[order] : 0;
+            return countAt(order);
+        }
+
+        private long countAt(int order) {
+            return order >= 0 && order < counts.length ? counts[order] : 0;
         }
 
         private void reckonCounts(int n) {
+            orders.prepare(n);
             int many = Math.min(orders.howMany(n), counts.length);
             for (int order = counted; order < many; order++) {
                 long sum = order == 0 ? 1 : 0;
                 for (int k = 0; k <= n - 2; k++) {
                     int shorter = orders.exchanged(n, order, k);
-                    if (shorter >= 0 && shorter < order) {
-                        sum += counts[shorter];
+                    if (shorter < order) {
+                        sum += countAt(shorter);
                     }
                 }
                 counts[order] = sum;
@@ -936,7 +937,10 @@ public final class LadderLots {
             counted = Math.max(counted, many);
         }
 
-        /** The legs of the rungs, three bits each, the first one's the highest. */
+        /**
+         * The legs of the rungs, three bits each, the first one's the highest; of a rank below
+         * what howMany has told.
+         */
         long word(int n, int order, long rank) {
             long word = 0;
             long left = rank;
@@ -948,7 +952,7 @@ public final class LadderLots {
                 for (int k = 0; k <= n - 2 && chosen == now; k++) {
                     int shorter = orders.exchanged(n, now, k);
                     if (shorter < now) {
-                        long many = howMany(n, shorter);
+                        long many = countAt(shorter);
                         if (left < many) {
                             leg = k;
                             chosen = shorter;
@@ -965,6 +969,7 @@ public final class LadderLots {
 
         long rankOf(Ladder ladder, int end) {
             int n = ladder.legs();
+            reckonCounts(n);
             long rank = 0;
             int now = orders.inverse(n, end);
             for (int i = 0; i < ladder.size(); i++) {
@@ -972,7 +977,7 @@ public final class LadderLots {
                 for (int k = 0; k < leg; k++) {
                     int shorter = orders.exchanged(n, now, k);
                     if (shorter < now) {
-                        rank += howMany(n, shorter);
+                        rank += countAt(shorter);
                     }
                 }
                 now = orders.exchanged(n, now, leg);

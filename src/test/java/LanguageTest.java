@@ -16,6 +16,7 @@ public final class LanguageTest {
     private static final int MOST_LINES = 60;
     private static final int MOST_PARAMETERS = 7;
     private static final int MOST_FIELDS = 20;
+    private static final int MOST_DEPTH = 8;
 
     private static String withoutTexts(String source) {
         return source.replaceAll("(?s)/\\*.*?\\*/", "").replaceAll("//[^\n]*", "")
@@ -80,6 +81,18 @@ public final class LanguageTest {
         REPORT.end();
     }
 
+    private static void testCalls() {
+        REPORT.begin("calls are no recursion and go no deeper than eight");
+        CallGraph graph = new CallGraph(LadderLots.class);
+        REPORT.holds("methods seen: " + graph.methods(), graph.methods() > 150);
+        for (String method : graph.all()) {
+            int depth = graph.depth(method);
+            REPORT.holds(method + " goes " + depth + " deep", depth <= MOST_DEPTH);
+        }
+        REPORT.holds("recursion of " + graph.recursion(), graph.recursion().isEmpty());
+        REPORT.end();
+    }
+
     private static void testWhatIsMade(List<String> lines) {
         REPORT.begin("objects and arrays are made in constructors alone");
         Pattern constructor = Pattern.compile("^( {4}| {8})(?! )(?:public )?([A-Z]\\w*)\\([^;]*\\{$");
@@ -103,6 +116,7 @@ public final class LanguageTest {
         testWords(withoutTexts(source));
         testMethodLengths(lines);
         testClasses();
+        testCalls();
         testWhatIsMade(lines);
         REPORT.exit();
     }
