@@ -736,6 +736,7 @@ public final class LadderLots {
 
         /** For each place of 7, the order in which the two there have changed. */
         private final short[] swaps;
+        /** Orders of up to so many numbers are in the table. */
         private int ready;
 
         Orders() {
@@ -1031,7 +1032,7 @@ public final class LadderLots {
             orderLaid = order;
             size = (int) many;
             length = orders.inversions(n, order);
-            for (int i = 0; i < size; i++) {
+            for (int i = 0; i < size && i < words.length; i++) {
                 words[i] = least.word(n, order, i);
             }
             return true;
@@ -1062,7 +1063,7 @@ public final class LadderLots {
             forgetDistances();
             int classCount = 0;
             int at = 0;
-            for (int i = 0; i < size; i++) {
+            for (int i = 0; i < size && i < distances.length; i++) {
                 if (distances[i] == NONE) {
                     classCount++;
                     reach(i, 0);
