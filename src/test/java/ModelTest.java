@@ -58,6 +58,24 @@ public final class ModelTest {
         REPORT.end();
     }
 
+    private static void testFewWords() {
+        REPORT.begin("least ladders of orders of 6 and 7 numbers, where these are few");
+        for (int n = 6; n <= 7; n++) {
+            LadderLots lots = new LadderLots();
+            int most = 0;
+            for (int run = 0; run < 400; run++) {
+                int order = RANDOM.nextInt(Naive.orders(n).size());
+                long many = lots.ladders(n, order);
+                if (many <= 800 && many > most) {
+                    most = (int) many;
+                    testLeast(lots, n, order);
+                }
+            }
+            REPORT.holds("many enough: " + most, most > 300);
+        }
+        REPORT.end();
+    }
+
     private static void testLeast(LadderLots lots, int n, int order) {
         List<List<Integer>> words = Naive.least(n, order);
         int fewest = Naive.inversions(Naive.orders(n).get(order));
@@ -397,6 +415,7 @@ public final class ModelTest {
     public static void main(String[] args) {
         testOrders();
         testGreatOrders();
+        testFewWords();
         testWays();
         testLogs();
         testPlain();
