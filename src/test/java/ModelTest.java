@@ -375,7 +375,7 @@ public final class ModelTest {
         return elements;
     }
 
-    private static long lot(int seed, int which) {
+    static long lot(int seed, int which) {
         long wrap = 1L << 32;
         long h = seed & wrap - 1;
         for (long it : new long[] {9, which}) {

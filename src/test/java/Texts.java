@@ -24,6 +24,28 @@ final class Texts {
         return lots.read();
     }
 
+    /** A new object to which these texts, which are right, were told. */
+    static LadderLots with(String... texts) {
+        LadderLots lots = new LadderLots();
+        for (String text : texts) {
+            int fault = read(lots, text);
+            if (fault != 0) {
+                throw new IllegalStateException("fault " + fault + " of " + text);
+            }
+        }
+        return lots;
+    }
+
+    /** The kinds and legs of a ladder's elements. */
+    static String elements(LadderLots lots, int t) {
+        StringBuilder told = new StringBuilder();
+        int many = lots.ladder(t, 1);
+        for (int i = 0; i < many; i++) {
+            told.append("rgbm".charAt(lots.element(t, i, 1))).append(lots.element(t, i, 0));
+        }
+        return told.toString();
+    }
+
     static String times(String text, int times) {
         StringBuilder all = new StringBuilder();
         for (int i = 0; i < times; i++) {
