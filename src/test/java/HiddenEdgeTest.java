@@ -237,6 +237,15 @@ public final class HiddenEdgeTest {
             REPORT.due("annul of the void", x.annul(1), -1);
             REPORT.due("annul of the log behind", x.annul(2), 3);
         });
+        REPORT.test("29 a LOG that is void already is a LOG, and no VOID", () -> {
+            LadderLots x = Texts.with(HIDDEN);
+            x.log(0, 0, 1);
+            REPORT.due("annul", x.annul(0), 1);
+            REPORT.due("annul again", x.annul(0), 2);
+            REPORT.due("fitting(0, 1)", x.fitting(0, 1), 2);
+            REPORT.due("fitting(0, 2)", x.fitting(0, 2), 12);
+            REPORT.due("fitting(0, 3)", x.fitting(0, 3), 12);
+        });
         REPORT.test("29 the 40th is allowed, a 41st is not", () -> {
             LadderLots x = Texts.with(HIDDEN);
             for (int i = 0; i < 39; i++) {
