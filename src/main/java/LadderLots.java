@@ -1606,18 +1606,23 @@ public final class LadderLots {
 
         int mostTelling(int n) {
             int best = 0;
-            long bestWays = Long.MAX_VALUE;
-            for (int number = 0; number < n; number++) {
-                long greatest = 0;
-                for (int leg = 0; leg < n; leg++) {
-                    greatest = Math.max(greatest, waysOnto(number, leg));
-                }
-                if (greatest < bestWays) {
+            long bestWays = mostWays(0, n);
+            for (int number = 1; number < n; number++) {
+                long ways = mostWays(number, n);
+                if (ways < bestWays) {
                     best = number;
-                    bestWays = greatest;
+                    bestWays = ways;
                 }
             }
             return best;
+        }
+
+        private long mostWays(int number, int n) {
+            long most = 0;
+            for (int leg = 0; leg < n; leg++) {
+                most = Math.max(most, waysOnto(number, leg));
+            }
+            return most;
         }
     }
 

@@ -43,6 +43,24 @@ public final class LanguageTest {
         REPORT.end();
     }
 
+    private static void testLibrary(String code) {
+        REPORT.begin("of the library's classes only the functions that the language lists");
+        Set<String> listed = Set.of("System.arraycopy(", "Arrays.copyOf(", "Arrays.copyOfRange(",
+                "Arrays.fill(", "List.of(");
+        Matcher used = Pattern.compile("(?<![\\w.])([A-Z]\\w*[a-z]\\w*)\\.(\\w+\\(?)").matcher(code);
+        Set<String> own = new HashSet<>();
+        for (Class<?> inside : LadderLots.class.getDeclaredClasses()) {
+            own.add(inside.getSimpleName());
+        }
+        while (used.find()) {
+            String member = used.group(1) + "." + used.group(2);
+            boolean ofNumbers = member.matches("(Integer|Long|Math)\\.\\w+\\(");
+            REPORT.holds(member, own.contains(used.group(1)) || ofNumbers
+                    || listed.contains(member));
+        }
+        REPORT.end();
+    }
+
     private static void testMethodLengths(List<String> lines) {
         REPORT.begin("methods are short");
         Pattern start = Pattern.compile("^( {4}| {8})(?! )[\\w\\[\\]<> ]+\\([^;]*\\{$");
@@ -113,7 +131,9 @@ public final class LanguageTest {
     public static void main(String[] args) throws IOException {
         String source = Files.readString(SOURCE);
         List<String> lines = Files.readAllLines(SOURCE);
-        testWords(withoutTexts(source));
+        String code = withoutTexts(source);
+        testWords(code);
+        testLibrary(code);
         testMethodLengths(lines);
         testClasses();
         testCalls();
